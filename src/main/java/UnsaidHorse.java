@@ -8,10 +8,12 @@ public final class UnsaidHorse {
     private static final int MOST_PEOPLE = 4;
     private static final int SIGNS = 4;
     private static final int ALL_SIGNS = 15;
+    // An amount is how much a SIGN TELLS, 1 to 9.
     private static final int MOST_AMOUNT = 9;
     private static final int ALL_AMOUNTS = 511;
 
     private static final int PAGE_SIZE = 22;
+    // Where the ";" stands behind two PEOPLE and behind four, and how many letters it and the digits are.
     private static final int FIRST_END = 7;
     private static final int LAST_END = 15;
     private static final int TAIL = 5;

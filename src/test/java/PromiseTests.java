@@ -170,13 +170,15 @@ public final class PromiseTests {
         check.due("5: the page is empty", x.count(7), 0);
         x.tell(0, 1, 0);
         x.forbid(2, true);
-        x.tell(2, 0, 3);
+        check.due("5: said in the old court", x.tell(2, 1, 3), 5);
+        x.forbid(3, true);
+        check.due("5: hanged in the old court", x.tell(1, 0, 3), 2);
         x.ask(0, 1, true);
         x.image();
         Check.type(x, "m90,k51,c33;1234x");
         check.due("5: no court", x.court(), STATE);
-        check.due("5: all stays", x.count(5), 2);
-        check.due("5: the image stays", x.restore(), 2);
+        check.due("5: all stays", x.count(5), 3);
+        check.due("5: the image stays", x.restore(), 3);
         x.blank();
         Check.type(x, "m90,k51,c33;1234");
         check.due("5: court", x.court(), 3);
@@ -185,6 +187,7 @@ public final class PromiseTests {
         }
         check.due("5: known at first alone", x.about(1, 2), 2);
         check.due("5: nothing told", x.about(0, 7), 0);
+        check.due("5: nothing said", x.about(1, 6), 0);
         check.due("5: the image is gone", x.restore(), STATE);
         check.due("5: courts read", x.count(8), 2);
         Check.type(x, "q94,n90;1111");
@@ -519,6 +522,13 @@ public final class PromiseTests {
         x.forget();
         x.ask(0, 0, true);
         check.due("15: never", x.tells(3), 0);
+        x.forget();
+        x.ask(0, 5, true);
+        check.due("15: just enough without it", x.tells(1), 511);
+        x.ask(1, 1, false);
+        check.due("15: just too little without it", x.tells(1), 511);
+        x.ask(0, 5, false);
+        check.due("15: both cannot be", x.tells(1), 0);
         UnsaidHorse prince = Check.courtOf("q90,m94;1111");
         prince.ask(0, 1, true);
         check.due("15: 11 by one sign", prince.tells(0), 0);
