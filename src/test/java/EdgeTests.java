@@ -16,6 +16,7 @@ public final class EdgeTests {
         allKnowAll();
         theFourthSignIsNone();
         aNewCourtForgets();
+        fewerPeople();
         toldAndTold();
         planOfNoneToThreeWords();
         planByNumbers();
@@ -182,6 +183,24 @@ public final class EdgeTests {
         Check.read(x, text);
         // The digest is that of the first time but for how often a COURT was read, the last number but one.
         check.due("all is as at first", x.digest(), first + 31);
+    }
+
+    /** "Another one is gone": of four two are left, and the others tell nothing, are not asked and not counted. */
+    private static void fewerPeople() {
+        UnsaidHorse x = Check.courtOf("k94,m14,m50,k10;9111");
+        check.due("four: infer it", x.count(1), 2);
+        check.due("four: plan", x.plan(0, 10), 32);
+        check.due("four: told", x.tell(2, 1, 0), 3);
+        Check.read(x, "k94,m14;9111");
+        check.due("two: people", x.count(0), 2);
+        check.due("two: infer it", x.count(1), 0);
+        check.due("two: plan", x.plan(0, 0), NONE);
+        check.due("two: audiences, hanged", x.audiences(60, 1, 0), 0);
+        check.due("two: audiences, infer it", x.audiences(60, 1, 1), 0);
+        Check.read(x, "m14,m14,m54,m54;9111");
+        check.due("four: next", x.next(0), 33);
+        Check.read(x, "m14,m14;9111");
+        check.due("two: next", x.next(0), 1);
     }
 
     /** "Did not before": who INFERS it already says nothing more, and nobody is HANGED for him. */
